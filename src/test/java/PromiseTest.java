@@ -342,6 +342,12 @@ public final class PromiseTest {
         Due.is("12: (2, 0) is fringe, (3, 0) is noise", tail.noise(1, 5), 1);
         Due.is("12: (1, 0) alone is dense", tail.noise(1, 6), 1);
         Due.is("12: nothing is dense", tail.noise(1, 7), 7);
+        NearTree first = withPoints(0, 0, 1, 0, -1, 0);
+        Due.is("12: only place 0 is dense", first.noise(1, 3), 0);
+        NearTree last = fullTree();
+        last.move(0, 92, 10);
+        last.move(1, 92, -10);
+        Due.is("12: only place 23 is dense", last.noise(100, 4), 20);
         Due.is("12: a full tree", fullTree().noise(63, 2), 24);
     }
 
