@@ -22,6 +22,17 @@ final class Due {
         }
     }
 
+    // The test of one sentence of the document. A test that asks nothing would hide that the sentence is untested.
+    static void sentence(String words, Runnable test) {
+        int askedBefore = asked;
+        int wrongBefore = wrong;
+        test.run();
+        holds("something is asked", asked > askedBefore);
+        if (wrong > wrongBefore) {
+            System.out.println("^ broken: " + words);
+        }
+    }
+
     static void end() {
         if (asked == 0 || wrong != 0) {
             System.out.println(wrong + " of " + asked + " are not as due");
