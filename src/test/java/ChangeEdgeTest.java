@@ -1,4 +1,4 @@
-// Promises 1 to 5: a test for each sentence that names a boundary.
+// Promises 1 to 5: a test for each sentence, or for each boundary in it.
 public final class ChangeEdgeTest {
     private static final int LEAST = Trees.LEAST;
     private static final int MOST = Trees.MOST;
@@ -17,6 +17,7 @@ public final class ChangeEdgeTest {
         Due.sentence("3: the number of points left", ChangeEdgeTest::pointsLeft);
         Due.sentence("3: takes the point away", ChangeEdgeTest::takenAway);
         Due.sentence("3: a refused remove takes nothing", ChangeEdgeTest::refusedRemove);
+        Due.sentence("4: moves the point in a place, which it keeps", ChangeEdgeTest::moveKeepsThePlace);
         Due.sentence("4: there is no point in the place: BAD", ChangeEdgeTest::moveNone);
         Due.sentence("4: no such place: BAD", ChangeEdgeTest::moveNoPlace);
         Due.sentence("4: x or y outside -100..100: BAD", ChangeEdgeTest::moveOutside);
@@ -48,6 +49,7 @@ public final class ChangeEdgeTest {
         NearTree second = new NearTree();
         Due.is("size of the new one", second.size(), 0);
         Due.is("add to the new one", second.add(100, 100), 0);
+        Trees.isJust("the old one", first, Trees.rowSpots());
         Due.is("remove from the old one", first.remove(23), 23);
         Trees.isJust("the new one", second, 100, 100);
     }
@@ -143,6 +145,10 @@ public final class ChangeEdgeTest {
         }
         Due.is("add again", tree.add(0, 0), 0);
         Due.is("the only one", tree.remove(0), 0);
+        NearTree upwards = Trees.row();
+        for (int place = 0; place < 24; place++) {
+            Due.is("upwards, remove " + place, upwards.remove(place), 23 - place);
+        }
     }
 
     private static void takenAway() {
@@ -169,6 +175,21 @@ public final class ChangeEdgeTest {
         tree.remove(24);
         Trees.isJust("after BAD", tree, 1, 1, 2, 2, 3, 3);
         Due.is("the next place is the same", tree.add(4, 4), 3);
+    }
+
+    private static void moveKeepsThePlace() {
+        NearTree tree = Trees.with(1, 1, 2, 2, 3, 3, 4, 4);
+        tree.remove(0);
+        tree.remove(2);
+        Due.is("move 3", tree.move(3, 50, -60), 6212);
+        Due.is("it is there now", tree.nearest(50, -60, 0), 3);
+        Due.is("it is no longer there", tree.inBox(4, 4, 4, 4), 0);
+        Due.is("the other one stays", tree.nearest(2, 2, 0), 1);
+        Due.is("move 1", tree.move(1, 50, -60), 6148);
+        Due.is("the smaller place is ranked first", tree.nearest(50, -60, 0), 1);
+        Due.is("the greater place is ranked next", tree.nearest(50, -60, 1), 3);
+        Due.is("place 0 is still empty", tree.add(0, 0), 0);
+        Due.is("place 2 is still empty", tree.add(0, 0), 2);
     }
 
     private static void moveNone() {

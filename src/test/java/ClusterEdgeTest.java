@@ -1,4 +1,4 @@
-// Promises 10 to 12, and 13 for clusterOf: a test for each sentence that names a boundary.
+// Promises 10 to 12, and 13 for clusterOf: a test for each sentence, or for each boundary in it.
 public final class ClusterEdgeTest {
     private static final int LEAST = Trees.LEAST;
     private static final int MOST = Trees.MOST;
@@ -19,6 +19,7 @@ public final class ClusterEdgeTest {
         Due.sentence("13: clusterOf: BAD is tested before NONE", ClusterEdgeTest::badBeforeNone);
         Due.sentence("10 to 12: a question changes nothing", ClusterEdgeTest::questionsChangeNothing);
         Due.sentence("10 to 12: each question is answered anew", ClusterEdgeTest::questionsStandAlone);
+        Due.sentence("10 to 12: each question is answered anew after a change", ClusterEdgeTest::questionsAfterChanges);
         Due.end();
     }
 
@@ -79,7 +80,8 @@ public final class ClusterEdgeTest {
             }
         }
         NearTree tree = Trees.with(0, 0, 1, 0, 2, 0, 3, 0);
-        Due.is("a fringe point gives no name", tree.clusterOf(2, 1, 3), 1);
+        Due.is("a fringe point beside it gives no name", tree.clusterOf(1, 1, 3), 1);
+        Due.is("a fringe point farther off gives no name", tree.clusterOf(2, 1, 3), 1);
         tree.remove(0);
         Due.is("a removed point gives no name", tree.clusterOf(3, 1, 1), 1);
     }
@@ -196,7 +198,7 @@ public final class ClusterEdgeTest {
         Due.is("the next place is the same", tree.add(7, 7), 3);
     }
 
-    // An earlier question with other numbers, or with other points, must leave no trace.
+    // An earlier question with other numbers must leave no trace.
     private static void questionsStandAlone() {
         NearTree tree = Trees.with(50, 50, 0, 0, 1, 0, 2, 0);
         Due.is("three in one", tree.clusters(1, 1), 2);
@@ -204,13 +206,33 @@ public final class ClusterEdgeTest {
         Due.is("nothing is dense", tree.clusters(0, 2), 0);
         Due.is("all noise", tree.noise(0, 2), 4);
         Due.is("three in one again", tree.clusterOf(3, 1, 1), 1);
-        tree.remove(2);
-        Due.is("parted by a remove", tree.clusterOf(3, 1, 1), 3);
-        tree.move(3, 1, 0);
-        Due.is("joined by a move", tree.clusterOf(3, 1, 2), 1);
-        tree.move(3, 2, 0);
-        Due.is("parted by a move", tree.noise(1, 2), 3);
-        tree.add(1, 0);
-        Due.is("joined by an add", tree.clusters(1, 2), 1);
+        Due.is("one noise", tree.noise(1, 2), 1);
+        Due.is("m alone is another", tree.noise(1, 4), 4);
+        Due.is("m alone is another, in a cluster", tree.clusterOf(3, 1, 2), 1);
+        Due.is("m alone is another, in none", tree.clusterOf(3, 1, 3), NearTree.NONE);
+    }
+
+    // The same questions after each kind of change; an answer kept from before it would be seen.
+    private static void questionsAfterChanges() {
+        NearTree tree = Trees.with(0, 0, 5, 0, 10, 0);
+        answers("three apart", tree, new int[] {0, NearTree.NONE, 3});
+        tree.add(5, 1);
+        answers("after an add", tree, new int[] {1, 1, 2});
+        tree.move(0, 5, -1);
+        answers("after a move beside it", tree, new int[] {1, 0, 1});
+        tree.move(0, 10, 1);
+        answers("after a move beside another", tree, new int[] {2, 1, 0});
+        tree.remove(3);
+        answers("after a remove", tree, new int[] {1, NearTree.NONE, 1});
+        tree.add(5, 1);
+        answers("after another add", tree, new int[] {2, 1, 0});
+        tree.remove(1);
+        answers("after its own remove", tree, new int[] {1, NearTree.BAD, 1});
+    }
+
+    private static void answers(String when, NearTree tree, int[] due) {
+        Due.is(when + ": clusters", tree.clusters(1, 2), due[0]);
+        Due.is(when + ": clusterOf", tree.clusterOf(1, 1, 2), due[1]);
+        Due.is(when + ": noise", tree.noise(1, 2), due[2]);
     }
 }

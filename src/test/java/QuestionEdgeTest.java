@@ -1,4 +1,4 @@
-// Promises 6 to 9, and 13 for nearest: a test for each sentence that names a boundary.
+// Promises 6 to 9, and 13 for nearest: a test for each sentence, or for each boundary in it.
 public final class QuestionEdgeTest {
     private static final int LEAST = Trees.LEAST;
     private static final int MOST = Trees.MOST;
@@ -25,6 +25,7 @@ public final class QuestionEdgeTest {
         Due.sentence("9: NONE if there are fewer than two points", QuestionEdgeTest::fewerThanTwo);
         Due.sentence("13: nearest: BAD is tested before NONE", QuestionEdgeTest::badBeforeNone);
         Due.sentence("6 to 9: a question changes nothing", QuestionEdgeTest::questionsChangeNothing);
+        Due.sentence("6 to 9: each question is answered anew", QuestionEdgeTest::questionsStandAlone);
         Due.end();
     }
 
@@ -260,5 +261,30 @@ public final class QuestionEdgeTest {
         tree.closest();
         Trees.isJust("after questions", tree, 1, 1, 2, 2, 50, 50);
         Due.is("the next place is the same", tree.add(7, 7), 3);
+    }
+
+    // The same questions after each kind of change; an answer kept from before it would be seen.
+    private static void questionsStandAlone() {
+        NearTree tree = Trees.with(10, 0, 20, 0);
+        answers("two points", tree, new int[] {0, 1, 1, 100});
+        tree.add(0, 3);
+        answers("after an add", tree, new int[] {2, 2, 2, 100});
+        tree.move(0, 0, 1);
+        answers("after a move", tree, new int[] {0, 2, 2, 4});
+        tree.move(1, 1, 3);
+        answers("after a move beside another", tree, new int[] {0, 3, 3, 1});
+        tree.remove(0);
+        answers("after a remove", tree, new int[] {2, 2, 2, 1});
+        tree.remove(2);
+        answers("after another remove", tree, new int[] {1, 1, 1, NearTree.NONE});
+        tree.remove(1);
+        answers("after the last remove", tree, new int[] {NearTree.NONE, 0, 0, NearTree.NONE});
+    }
+
+    private static void answers(String when, NearTree tree, int[] due) {
+        Due.is(when + ": nearest", tree.nearest(0, 0, 0), due[0]);
+        Due.is(when + ": within", tree.within(0, 0, 100), due[1]);
+        Due.is(when + ": inBox", tree.inBox(0, 10, 0, 10), due[2]);
+        Due.is(when + ": closest", tree.closest(), due[3]);
     }
 }

@@ -1,4 +1,6 @@
-// "What it is" and "Terms": a test for each sentence that names a boundary.
+import java.util.function.ToIntFunction;
+
+// "What it is" and "Terms": a test for each sentence, or for each boundary in it.
 public final class TermsTest {
     // All the spots with whole coordinates that have a distance of 25 from (0, 0), in no order.
     private static final int[] CIRCLE = {
@@ -7,6 +9,7 @@ public final class TermsTest {
     public static void main(String[] args) {
         Due.sentence("used for at most 512 calls after it has been made", TermsTest::the512thCall);
         Due.sentence("at most 512 calls, refused ones among them", TermsTest::the512thCallAfterRefusedOnes);
+        Due.sentence("at most 512 calls, all of them the same", TermsTest::theSameCall512Times);
         Due.sentence("up to 24 points, in places 0 to 23", TermsTest::places);
         Due.sentence("a point has whole x and y from -100 to 100", TermsTest::coordinates);
         Due.sentence("several points may be at the same spot", TermsTest::sameSpot);
@@ -19,6 +22,7 @@ public final class TermsTest {
         Due.sentence("two dense points whose distance is at most r2", TermsTest::connectedAtTheRim);
         Due.sentence("and so on from one to the next", TermsTest::fromOneToTheNext);
         Due.sentence("a cluster is a largest set of dense points", TermsTest::onlyDensePointsConnect);
+        Due.sentence("a cluster is of dense points, whatever their places", TermsTest::aBridgeInAnyPlace);
         Due.sentence("fringe iff some dense point has a distance of at most r2 from it", TermsTest::fringeAtTheRim);
         Due.sentence("fringe iff some dense point: a fringe point is none", TermsTest::fringeOfAFringe);
         Due.sentence("a point that is not dense is a fringe point or noise", TermsTest::denseIsNoNoise);
@@ -45,6 +49,25 @@ public final class TermsTest {
         Due.is("call 512, add", tree.add(0, 0), 0);
     }
 
+    private static void theSameCall512Times() {
+        isSame("move", Trees.with(0, 0), tree -> tree.move(0, 0, 0), 0);
+        isSame("size", Trees.with(0, 0), NearTree::size, 1);
+        isSame("nearest", Trees.with(0, 0), tree -> tree.nearest(9, 9, 0), 0);
+        isSame("within", Trees.with(0, 0), tree -> tree.within(0, 0, 0), 1);
+        isSame("inBox", Trees.with(0, 0), tree -> tree.inBox(0, 0, 0, 0), 1);
+        isSame("closest", Trees.with(0, 0), NearTree::closest, NearTree.NONE);
+        isSame("clusters", Trees.with(0, 0), tree -> tree.clusters(0, 1), 1);
+        isSame("clusterOf", Trees.with(0, 0), tree -> tree.clusterOf(0, 0, 1), 0);
+        isSame("noise", Trees.with(0, 0), tree -> tree.noise(0, 2), 1);
+    }
+
+    // The call that has put the point into the object is the first of the 512.
+    private static void isSame(String name, NearTree tree, ToIntFunction<NearTree> question, int due) {
+        for (int call = 2; call <= 512; call++) {
+            Due.is(name + " as call " + call, question.applyAsInt(tree), due);
+        }
+    }
+
     private static void places() {
         NearTree tree = new NearTree();
         for (int place = 0; place < 24; place++) {
@@ -65,6 +88,13 @@ public final class TermsTest {
                 Due.is("add(" + x + ", " + y + ")", tree.add(x, y), 0);
                 Due.is("it is just there", tree.inBox(x, x, y, y), 1);
             }
+        }
+        int[] beyond = {-101, 101};
+        for (int far : beyond) {
+            Due.is("no point has x " + far, new NearTree().add(far, 0), NearTree.BAD);
+            Due.is("no point has y " + far, new NearTree().add(0, far), NearTree.BAD);
+            Due.is("no point gets x " + far, Trees.with(0, 0).move(0, far, 0), NearTree.BAD);
+            Due.is("no point gets y " + far, Trees.with(0, 0).move(0, 0, far), NearTree.BAD);
         }
     }
 
@@ -185,6 +215,24 @@ public final class TermsTest {
         Due.is("the middle is dense", thin.clusters(4, 3), 1);
         Due.is("then it is in the cluster", thin.clusterOf(4, 4, 3), 0);
         Due.is("a dense point alone is a cluster", Trees.with(0, 0, 2, 0, 4, 0).clusterOf(1, 4, 3), 1);
+    }
+
+    private static void aBridgeInAnyPlace() {
+        // Two groups of four, and one point between them that has just one of each near it.
+        int[] groups = {-4, 4, -5, 5, -5, 5, -5, 5};
+        for (int bridge = 0; bridge <= groups.length; bridge++) {
+            NearTree tree = new NearTree();
+            for (int place = 0; place <= groups.length; place++) {
+                int member = place < bridge ? place : place - 1;
+                tree.add(place == bridge ? 0 : groups[member], 0);
+            }
+            String where = "bridge in place " + bridge;
+            Due.is(where + ", fringe", tree.clusters(16, 4), 2);
+            Due.is(where + ", its cluster", tree.clusterOf(bridge, 16, 4), NearTree.NONE);
+            Due.is(where + ", noise", tree.noise(16, 4), 0);
+            Due.is(where + ", dense", tree.clusters(16, 3), 1);
+            Due.is(where + ", its cluster then", tree.clusterOf(bridge, 16, 3), 0);
+        }
     }
 
     private static void fringeAtTheRim() {
